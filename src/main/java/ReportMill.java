@@ -550,13 +550,13 @@ public final class ReportMill {
       value = values[0];
     }
 
-    /** Takes the token, if there is room for it, and looks at the next one; behind an error of form there is none. */
+    /** Takes the token and looks at the next one; a token without room becomes a wrong one, and stays. */
     void next() {
       if (kind == Kind.WRONG) {
         return;
       }
       if (room <= 0) {
-        refuse();
+        kind = Kind.WRONG;
       } else if (index + 1 < tokenCount && index + 1 < kinds.length) {
         room--;
         index++;
@@ -566,7 +566,7 @@ public final class ReportMill {
       }
     }
 
-    /** An error of form at the token; the loops that read on end with it. */
+    /** An error of form at the token, which becomes a wrong one, so that nothing reads on. */
     void refuse() {
       if (error != 1) {
         error = 1;
@@ -1083,15 +1083,15 @@ public final class ReportMill {
           if (tape.kind.role == FUNCTION) {
             return function(depth);
           }
-          return special(tape.kind);
+          if (tape.kind.role == SPECIAL) {
+            return special(tape.kind);
+          }
+          tape.refuse();
+          return IS_NUMBER;
       }
     }
 
     private int special(Kind kind) {
-      if (kind.role != SPECIAL) {
-        tape.refuse();
-        return IS_NUMBER;
-      }
       if (where == DECLARED && kind != Kind.ROWNO) {
         tape.wrong(2, tape.start);
       }
@@ -1208,7 +1208,7 @@ public final class ReportMill {
       return IS_NUMBER;
     }
 
-    /** Takes a token behind which the depth is one greater. */
+    /** Takes a token behind which the depth is one greater; false if nothing can stand behind it. */
     private boolean opens(int depth) {
       if (depth >= MOST_DEPTH) {
         tape.refuse();
@@ -1633,6 +1633,9 @@ public final class ReportMill {
     }
 
     void copy(int from, int to) {
+      if (from < 0 || from >= SLOTS || to < 0 || to >= SLOTS) {
+        return;
+      }
       isText[to] = isText[from];
       numbers[to] = numbers[from];
       lengths[to] = lengths[from];
