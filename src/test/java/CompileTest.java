@@ -15,6 +15,8 @@ public final class CompileTest {
     orderOfTheProgram();
     tokens();
     longestProgram();
+    manyTexts();
+    manyPrograms();
     CHECKS.end();
   }
 
@@ -160,6 +162,7 @@ public final class CompileTest {
     code("a and 2", "2 29:6 0:2 29:6 0:1 28:7 0");
     code("a or 2", "2 29:4 0:1 28:7 0:2 18 18");
     code("a and a and a", "2 29:6 2 29:6 0:1 28:7 0 29:12 2 29:12 0:1 28:13 0");
+    code("a or a or a", "2 29:4 0:1 28:7 2 18 18 29:10 0:1 28:13 2 18 18");
     code("1 or a and 3", "0:1 29:4 0:1 28:13 2 29:10 0:3 29:10 0:1 28:11 0 18 18");
     code("a = 1 or a = 2", "2 0:1 12 29:6 0:1 28:11 2 0:2 12 18 18");
     code("not (a and a)", "2 29:6 2 29:6 0:1 28:7 0 18");
@@ -241,5 +244,42 @@ public final class CompileTest {
     CHECKS.same("promise 12: its end", mill.mill.code(6 * pieces - 1, false), 30);
     CHECKS.same("promise 16: a full tape", mill.cells(12, "t").mill.run(), 0);
     CHECKS.same("promise 19: a full tape", mill.line(1, 1), "1211211211211211211211211211211211211211");
+  }
+
+  private static void manyTexts() {
+    Mill mill = mill();
+    StringBuilder program = new StringBuilder("band title line\"a\" at 1");
+    int texts = 1;
+    while (program.length() + 2 + 8 <= 2000) {
+      program.append("\"\"");
+      texts++;
+    }
+    program.append("\"bcd\"end");
+    CHECKS.same("promise 9: many texts", mill.error(program.toString()), "0@-1");
+    CHECKS.same("promise 12: the last text", mill.mill.code(2 * texts, true), texts);
+    mill.mill.run();
+    CHECKS.same("promise 19: the last text", mill.line(1, 1), "bcd");
+    CHECKS.same("promise 9: two texts", mill.error("let x = \"p\" & \"q\""), "0@-1");
+    CHECKS.same("promise 12: they are numbered from 0", mill.code(), "1 1:1 11 30");
+  }
+
+  /** What one program takes up is free again for the next one. */
+  private static void manyPrograms() {
+    Mill mill = mill();
+    StringBuilder program = new StringBuilder("band title ");
+    while (program.length() + 9 <= 1900) {
+      program.append("skip 1 ");
+    }
+    program.append("end");
+    for (int i = 0; i < 12; i++) {
+      CHECKS.same("promise 9: program " + i, mill.error(program.toString()), "0@-1");
+    }
+    CHECKS.same("promise 9: the last one", mill.error("band title line \"a\" line \"b\" end"), "0@-1");
+    mill.mill.run();
+    CHECKS.same("promise 19: the last one", mill.line(1, 1) + mill.line(1, 2), "ab");
+    for (int i = 0; i < 99; i++) {
+      CHECKS.same("promise 13: texts " + i, mill.value("\"a\" & \"b\" & \"c\" & \"d\" & \"e\" & \"f\" & \"g\" & \"h\""
+          + " & \"i\" & \"j\" & \"k\" & \"l\" & \"m\" & \"n\" & \"o\" & \"p\""), "'abcdefghijklmnop'");
+    }
   }
 }

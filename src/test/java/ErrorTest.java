@@ -165,6 +165,8 @@ public final class ErrorTest {
     error("let x = - - - 1 - - 1 + " + open + "1" + close, "0@-1");
     error("let x = abs(abs(abs(abs(abs(abs(abs(abs(abs(abs(abs(abs(1))))))))))))", "0@-1");
     error("let x = abs(abs(abs(abs(abs(abs(abs(abs(abs(abs(abs(abs(-1))))))))))))", "1@56");
+    error("total x = sum " + open + "a" + close, "0@-1");
+    error("total x = sum " + open + "(a" + close + ")", "1@26");
     String keeps = "keep keep keep keep keep keep keep keep keep keep keep keep ";
     String ends = "end end end end end end end end end end end end ";
     error("band row " + keeps + "line a " + ends + "end", "0@-1");
@@ -178,6 +180,13 @@ public final class ErrorTest {
     error("band row " + elevenKeeps + "if -a then end " + elevenEnds + "end", "1@67");
     error("band row " + elevenKeeps + "if a then else line -a end " + elevenEnds + "end", "1@84");
     error("band row " + elevenKeeps + "if a then else keep end end " + elevenEnds + "end", "1@79");
+    error("band row " + elevenKeeps + "if a then keep end end " + elevenEnds + "end", "1@74");
+    error("band row " + elevenKeeps + "if a then line a else line a end " + elevenEnds + "end", "0@-1");
+    String tenKeeps = elevenKeeps.substring(5);
+    String tenEnds = elevenEnds.substring(4);
+    error("band row " + tenKeeps + "if (a) then keep end else keep end end " + tenEnds + "end", "0@-1");
+    error("band row " + tenKeeps + "if (a) then line (a) else line -a end " + tenEnds + "end", "0@-1");
+    error("band row " + tenKeeps + "if ((a)) then end " + tenEnds + "end", "1@63");
     error("band row " + elevenKeeps + "keep end keep line a end line (a) " + elevenEnds + "end", "0@-1");
   }
 

@@ -59,6 +59,8 @@ public final class PagesTest {
     line("\"abc\" : 6 mid \"x\"", " abc  x");
     line("\"abc\" : 4 mid \"x\"", "abc x");
     line("\"abc\" : 3 right \"x\"", "abcx");
+    line("\"ab\" : 3 right \"x\"", " abx");
+    line("\"ab\" : 3 mid \"x\"", "ab x");
     line("\"abc\" : 2 right \"x\"", "abx");
     line("\"abc\" : 1 mid \"x\"", "ax");
     line("\"abc\" : 2 \"x\"", "abx");
@@ -77,6 +79,7 @@ public final class PagesTest {
     line("12 : 5 left \"x\"", "12   x");
     line("12 : 5 mid \"x\"", " 12  x");
     line("-12 : 3 \"x\"", "-12x");
+    line("12 : 3 \"x\"", " 12x");
     line("-12 : 2 \"x\"", "**x");
     line("123456 : 5 left \"x\"", "*****x");
     line("123456 : 1 mid \"x\"", "*x");
@@ -222,5 +225,17 @@ public final class PagesTest {
       items.append("end end ");
     }
     title(items.toString(), "1|2|3| // 4|5||");
+    String keeps = "keep ".repeat(12);
+    String ends = " end".repeat(12);
+    title("line 1 line 2 line 3 " + keeps + "line 4 line 5" + ends, "1|2|3| // 4|5||");
+    title("line 1 line 2 keep line 3 " + keeps.substring(5) + "line 4 line 5" + ends, "1|2|| // 3|4|5|");
+    title("line 1 line 2 line 3 " + "if 1 then ".repeat(12) + "line 4 line 5" + ends, "1|2|3|4 // 5|||");
+    for (String band : new String[] {"row", "before n", "after n", "summary"}) {
+      Mill mill = new Mill().columns("n").cells(1, 2);
+      String program = "page 10 4 group n band " + band + " " + keeps + "line n" + ends + " end";
+      CHECKS.same("nesting in " + band, mill.error(program), "0@-1");
+      CHECKS.same("nesting in " + band, mill.mill.run(), 0);
+      CHECKS.same("nesting in " + band, mill.pages(), band.equals("summary") ? "2|||" : "1|2||");
+    }
   }
 }

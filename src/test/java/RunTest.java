@@ -12,6 +12,7 @@ public final class RunTest {
     groups();
     lets();
     totals();
+    totalsPerPage();
     totalKinds();
     totalsOfTexts();
     totalTells();
@@ -58,6 +59,13 @@ public final class RunTest {
       CHECKS.same("promise 16: run with an error " + i, mill.mill.run(), 2);
     }
     CHECKS.fails("promise 16: a fifth run with an error", IllegalStateException.class, mill.mill::run);
+    mill.columns("n").cells(0);
+    mill.compile("band row line 1 / n end");
+    CHECKS.same("promise 16: an error", mill.mill.run(), 2);
+    mill.mill.clear();
+    mill.cells(1);
+    CHECKS.same("promise 16: none any more", mill.mill.run(), 0);
+    CHECKS.same("promise 17: none any more", mill.mill.told(4), 0);
     mill.compile("let x = ");
     CHECKS.fails("promise 16: no program any more", IllegalStateException.class, mill.mill::run);
   }
@@ -173,6 +181,8 @@ public final class RunTest {
         + "|||||||||||||||||||||");
     CHECKS.same("promise 23: a", mill.mill.broke(0), 3);
     CHECKS.same("promise 23: b", mill.mill.broke(1), 4);
+    pages("promise 16", new Mill().columns("n").cells(5), "page 10 4 group n band after n line \"-\" n end"
+        + " band summary line \"S\" end", "-5|S||");
     Mill three = new Mill().columns("x", "y", "z$").cells(1, 1, "p", 1, 1, "q", 2, 1, "q");
     pages("promise 16", three, "page 20 20 group z group x group y band before z line \"Z\" end"
         + " band after y line \"y\" end band after x line \"x\" end band after z line \"z\" end"
@@ -196,6 +206,13 @@ public final class RunTest {
         + " total d = count n per k total e = most n per page band bottom line \"B\" a \" \" b \" \" c \" \" d \" \" e end"
         + " band row need 3 line a \" \" b \" \" c \" \" d \" \" e skip 1 end",
         "5 5 5 1 5||7 7 7 2 5||16 9 16 1 9|||B20 13 20 2 9 // 20 13 0 2 0||26 19 6 3 6|||||B26 19 6 3 6");
+  }
+
+  private static void totalsPerPage() {
+    Mill mill = new Mill().columns("t$").cells("b", "a", "d", "c", "e", "d");
+    pages("promise 16", mill, "page 20 4 total a = least t per page total b = first t per page total c = count t per page"
+        + " band bottom line a b c end band row line a b c end",
+        "bb1|ab2|ab3|ab4 // 0|ee1|de2|de2");
   }
 
   private static void totalKinds() {
