@@ -1887,14 +1887,11 @@ public final class ReportMill {
     int width;
     int height;
     int pageCount;
-    private byte[] bytes = new byte[0];
+    // Made with the mill and used by all its runs, so that no call makes a row.
+    private final byte[] bytes = new byte[MOST_BYTES];
 
     /** Takes all pages away; the next ones will have this size. */
     void begin(int newWidth, int newHeight) {
-      // Made late, as a mill that never runs needs none of them.
-      if (bytes.length < MOST_BYTES) {
-        bytes = new byte[MOST_BYTES];
-      }
       width = newWidth;
       height = newHeight;
       pageCount = 0;
