@@ -2,6 +2,11 @@ import java.nio.charset.StandardCharsets;
 
 /** A mill that is told its tapes and cells as strings. */
 final class Mill {
+  static final String[] KEYWORDS = {"page", "order", "down", "group", "let", "total", "sum", "count", "least", "most",
+      "first", "last", "per", "band", "title", "top", "bottom", "before", "row", "after", "summary", "end", "line", "at",
+      "skip", "need", "eject", "keep", "if", "then", "else", "left", "right", "mid", "or", "and", "not", "len", "upper",
+      "part", "text", "money", "abs", "pageno", "pages", "rowno"};
+
   final ReportMill mill = new ReportMill();
 
   /** Makes the tape hold this text. */
@@ -106,6 +111,38 @@ final class Mill {
       text.append(page == 1 ? "" : " // ").append(page(page));
     }
     return text.toString();
+  }
+
+  /**
+   * These pages, if the latest run made them, or else the ones that it made. The sums of their lines take one call
+   * for a line, where their bytes would take more than the 512 calls that a mill is made for.
+   */
+  String pagesLike(String due) {
+    String[] pages = due.split(" // ", -1);
+    if (mill.told(1) != pages.length) {
+      return pages();
+    }
+    for (int page = 1; page <= pages.length; page++) {
+      String[] lines = pages[page - 1].split("\\|", -1);
+      if (mill.size(true) != lines.length) {
+        return pages();
+      }
+      for (int line = 1; line <= lines.length; line++) {
+        if (mill.lineSum(page, line) != sum(lines[line - 1], mill.size(false))) {
+          return pages();
+        }
+      }
+    }
+    return due;
+  }
+
+  /** The sum of a line of so many bytes that begins with this text. */
+  static long sum(String text, int width) {
+    long sum = 0;
+    for (int i = 0; i < width; i++) {
+      sum = sum * 31 + (i < text.length() ? text.charAt(i) : ' ');
+    }
+    return sum;
   }
 
   static long packed(String text) {
