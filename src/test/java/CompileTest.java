@@ -17,6 +17,7 @@ public final class CompileTest {
     longestProgram();
     manyTexts();
     manyPrograms();
+    manyExpressions();
     CHECKS.end();
   }
 
@@ -266,20 +267,31 @@ public final class CompileTest {
   /** What one program takes up is free again for the next one. */
   private static void manyPrograms() {
     Mill mill = mill();
-    StringBuilder program = new StringBuilder("band title ");
-    while (program.length() + 9 <= 1900) {
-      program.append("skip 1 ");
-    }
-    program.append("end");
-    for (int i = 0; i < 12; i++) {
-      CHECKS.same("promise 9: program " + i, mill.error(program.toString()), "0@-1");
+    for (int i = 0; i < 4; i++) {
+      CHECKS.same("promise 9: program " + i, mill.error("band title line " + "a ".repeat(800) + "end"), "0@-1");
+      CHECKS.same("promise 11: program " + i, mill.mill.codeSize(), 1600);
     }
     CHECKS.same("promise 9: the last one", mill.error("band title line \"a\" line \"b\" end"), "0@-1");
     mill.mill.run();
-    CHECKS.same("promise 19: the last one", mill.line(1, 1) + mill.line(1, 2), "ab");
-    for (int i = 0; i < 99; i++) {
-      CHECKS.same("promise 13: texts " + i, mill.value("\"a\" & \"b\" & \"c\" & \"d\" & \"e\" & \"f\" & \"g\" & \"h\""
-          + " & \"i\" & \"j\" & \"k\" & \"l\" & \"m\" & \"n\" & \"o\" & \"p\""), "'abcdefghijklmnop'");
+    CHECKS.same("promise 20: its first line", mill.mill.lineSum(1, 1), Mill.sum("a", 40));
+    CHECKS.same("promise 20: its second line", mill.mill.lineSum(1, 2), Mill.sum("b", 40));
+  }
+
+  /** What one expression takes up is free again for the next one. */
+  private static void manyExpressions() {
+    Mill mill = mill();
+    for (int i = 0; i < 25; i++) {
+      mill.tape("\"a\"" + "&\"b\"".repeat(49));
+      CHECKS.same("promise 13: fifty texts " + i, mill.mill.evaluate(-1), 7);
+      CHECKS.same("promise 14: fifty texts " + i, mill.mill.result(), 50);
     }
+    CHECKS.same("promise 13: the last texts", mill.value("\"y\" & \"z\""), "'yz'");
+    Mill other = mill();
+    for (int i = 0; i < 4; i++) {
+      other.tape("\"\"" + "&\"abcdefghij0123456789\"".repeat(49));
+      CHECKS.same("promise 13: texts of twenty bytes " + i, other.mill.evaluate(-1), 7);
+      CHECKS.same("promise 14: texts of twenty bytes " + i, other.mill.result(), 60);
+    }
+    CHECKS.same("promise 13: the last texts", other.value("\"y\" & \"z\""), "'yz'");
   }
 }

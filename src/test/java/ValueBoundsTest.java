@@ -15,6 +15,7 @@ public final class ValueBoundsTest {
     divisionsBy0();
     relationsOfNumbers();
     relationsOfTexts();
+    beginningsOfTexts();
     truth();
     andIsDecided();
     orIsDecided();
@@ -164,6 +165,21 @@ public final class ValueBoundsTest {
         value(pairs[pair][0] + operators[i] + pairs[pair][1], "" + due[pair].charAt(i));
       }
     }
+  }
+
+  /** What a longer text has left behind its beginning does not count. */
+  private static void beginningsOfTexts() {
+    Mill mill = mill();
+    String[] operators = {"<", ">", "=", "<>"};
+    String[] shorter = {"1", "0", "0", "1"};
+    String[] longer = {"0", "1", "0", "1"};
+    for (int i = 0; i < operators.length; i++) {
+      CHECKS.same("promise 13: longer texts", mill.value("\"abzz\" < \"abzz\""), "0");
+      CHECKS.same("promise 13: ab " + operators[i] + " abc", mill.value("\"ab\"" + operators[i] + "\"abc\""), shorter[i]);
+      CHECKS.same("promise 13: longer texts", mill.value("\"abzz\" < \"abzz\""), "0");
+      CHECKS.same("promise 13: abc " + operators[i] + " ab", mill.value("\"abc\"" + operators[i] + "\"ab\""), longer[i]);
+    }
+    CHECKS.same("promise 13: the same texts", mill.value("(\"abzz\" = \"abyy\") + (\"ab\" = \"ab\")"), "1");
   }
 
   /** "a number other than 0 is true". */
