@@ -1821,8 +1821,11 @@ public final class ReportMill {
       for (long more = rest / 10; more != 0 && digits < 20; more /= 10) {
         digits++;
       }
+      if (isMoney && digits < 3) {
+        digits = 3;
+      }
       int sign = number < 0 ? 1 : 0;
-      int length = sign + (isMoney ? Math.max(3, digits) + 1 : digits);
+      int length = sign + digits + (isMoney ? 1 : 0);
       int first = slot * MOST_TEXT;
       for (int i = length - 1; i >= sign; i--) {
         if (isMoney && i == length - 3) {
